@@ -167,6 +167,12 @@ public final class PromisesTest {
         fair(PAINT, 100, 5, 5);
         fair(MURAL, 9999, 5, 0);
         fair(LAMP, 99, 5, 4);
+        fair(LAMP, 40, 5, 2);
+        fair(CARPET, 40, 5, 7);
+        fair(RUG, 40, 5, 14);
+        fair(WALL, 49, 5, 0);
+        fair(WALL, 50, 5, 1);
+        fair(PAINT, 49, 5, 3);
         fair(LAMP, 100, 5, 99);
         JudgedDeposits x = told("thing 200 is 60 claim 999");
         x.change(0, 3, 90);
@@ -280,7 +286,13 @@ public final class PromisesTest {
         due("10 day", x.count(0), 99960);
         due("10 too far", x.go(40), STATE);
         due("10 beyond is asked first", x.go(61), BEYOND);
-        due("10 to the last", x.go(39), 0);
+        x.go(34);
+        due("24 too far", x.month(6), STATE);
+        x.image();
+        due("24 to the last", x.month(5), 0);
+        due("24 to the last", x.count(0), 99999);
+        x.undo();
+        due("10 to the last", x.go(5), 0);
         due("24 too far", x.month(1), STATE);
         due("24 beyond is asked first", x.month(21), BEYOND);
         due("24 no draw", x.count(6), 1);
@@ -316,6 +328,13 @@ public final class PromisesTest {
         due("11 left", x.now(2), 85);
         x.go(7);
         due("11 day", x.now(0), 7);
+        JudgedDeposits y = told("wall 100;wall 100 is 98 claim 1;wall 9;wall 9;wall 9;wall 9;wall 9;wall 100 is 9 claim 1");
+        due("11 worse by one", y.now(4), 130);
+        due("11 an award of one", y.now(5), 130);
+        due("11 of eight", y.now(3), 2);
+        due("11 of eight", y.now(6), 345);
+        due("11 of eight", y.now(1), 2);
+        due("21 of eight", y.giveUp(1000, 0), 130);
         due("11 beyond", x.now(8), BEYOND);
         due("11 beyond", x.now(-1), BEYOND);
     }
@@ -463,6 +482,8 @@ public final class PromisesTest {
         due("20 a little less", x.forceFor(2, 99, 3), 4);
         due("20 not yet", x.forceFor(2, 1, 2), NONE);
         due("20 nothing", x.forceFor(2, 0, 2), 0);
+        due("20 now", x.forceFor(2, 0, 0), 0);
+        due("20 now", x.forceFor(2, 1, 0), NONE);
         due("20 too much", x.forceFor(2, 9999, 60), NONE);
         due("20 another thing", x.forceFor(0, 9999, 60), NONE);
         due("20 the list is as it was", x.listed(2), 17);
@@ -495,6 +516,9 @@ public final class PromisesTest {
         x.set(6, 0);
         x.set(0, 1000);
         due("21 nothing changes", state(x).equals(before) ? 1 : 0, 1);
+        due("21 nothing is wanted", x.giveUp(0, 0), 0);
+        JudgedDeposits few = told("wall 100 is 0 claim 20;wall 100 is 0 claim 30;wall 100 is 0 claim 50;home 100 2");
+        due("21 one is fewer than two", few.giveUp(50, 0), 4);
         due("21 beyond", x.giveUp(-1, 0), BEYOND);
         due("21 beyond", x.giveUp(10000, 0), BEYOND);
         due("21 beyond", x.giveUp(0, -1), BEYOND);
@@ -669,6 +693,9 @@ public final class PromisesTest {
         due("29 blow", x.listed(5), 79);
         due("29 the ninth", text(x, "home 1 1; wall 3"), -11);
         due("29 nothing changes", x.home(0), 9999);
+        due("29 least", text(x, "blow 5 0 0;home 0 1;offer 0 0;silent 0"), 4);
+        due("29 least", x.listed(5) + x.home(0) + x.home(1) + x.home(4) + x.home(5) + x.home(6), 1);
+        due("29 least", text(told("wall 1"), "wall 0 aged 0 is 0 claim 0"), 1);
         due("29 item by item", text(x, "home 1 1;home 2 2;home 3 3"), 3);
         due("29 item by item", x.home(0) * 10 + x.home(1), 33);
         due("29 some are left out", text(told("wall 1"), "thing 5 claim 6"), 1);
@@ -697,6 +724,10 @@ public final class PromisesTest {
         fault("Wall 1", 0);
         fault("walls 1", 0);
         fault("wal 1", 0);
+        fault("ball 1", 0);
+        fault("wald 1", 0);
+        fault("wallz 1", 0);
+        fault("zwall 1", 0);
         fault("5 wall", 0);
         fault("home 1", 6);
         fault("home 10000 1", 5);
