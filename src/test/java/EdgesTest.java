@@ -94,8 +94,18 @@ public final class EdgesTest {
             int[] is = {t % 7, prices[t], 0, 99, 99, 0, 0};
             for (int what = 0; what < 7; what++) due("of(" + t + ", " + what + ")", x.of(t, what), is[what]);
         }
-        says(6, "BEYOND.");
         JudgedDeposits y = new JudgedDeposits();
+        y.image();
+        for (int again = 0; again < 2; again++) {
+            for (int t = 0; t < 8; t++) {
+                y.thing(5, 5);
+                for (int what = 0; what < 7; what++) due("new where another was: of(" + t + ", " + what + ")", y.of(t, what), new int[] {5, 5, 0, 99, 99, 0, 0}[what]);
+                for (int what = 0; what < 7; what++) y.change(t, what, 6);
+            }
+            y.undo();
+        }
+        says(6, "BEYOND.");
+        y = new JudgedDeposits();
         for (int bad : new int[] {-1, 7, MIN, MAX}) due("kind " + bad, y.thing(bad, 0), BEYOND);
         for (int bad : new int[] {-1, 1000, MIN, MAX}) due("PRICE " + bad, y.thing(0, bad), BEYOND);
         due("no THING", y.count(1), 0);
@@ -208,10 +218,21 @@ public final class EdgesTest {
         due("AWARDED of eight", x.now(1), 7912);
         due("LEFT", x.now(2), 2087);
         due("DAY", x.now(0), 0);
+        x.go(60);
+        due("DAY", x.now(0), 60);
+        for (int t = 0; t < 8; t++) x.change(t, CLAIM, t);
+        due("CLAIMS of eight", x.now(3), 28);
+        x = Given.told("wall 999 is 0 claim 999;wall 999 is 0 claim 999;wall 999 is 0 claim 999;wall 999 is 0 claim 999",
+            "wall 999 is 0 claim 999;wall 999 is 0 claim 999;wall 999 is 0 claim 999;wall 999 is 0 claim 999");
         says(11, "4 THINGS that are WORSE (above 0), as a set, 5 THINGS with an AWARD (above 0), as a set, 6 WORTH of all together,");
         due("WORSE of eight", x.now(4), 255);
         due("AWARDS of eight", x.now(5), 255);
         due("WORTH of eight", x.now(6), 7992);
+        for (int t = 0; t < 8; t++) x.change(t, PRICE, t);
+        due("WORTH of eight", x.now(6), 28);
+        x.change(7, IS, 99);
+        due("WORSE of seven", x.now(4), 127);
+        due("AWARDS of 1 * 99 / 100, 2 * 99 / 100, ..", x.now(5), 127 - 1 - 2);
         x = Given.told("wall 100 is 98 claim 1;wall 100 claim 1;wall 100 is 98;wall 99 is 98 claim 1;lamp 0 is 0 claim 9");
         due("WORSE by 1, and by 0", x.now(4), 1 + 4 + 8 + 16);
         due("AWARDS of 1, and of 0", x.now(5), 1);
@@ -544,6 +565,14 @@ public final class EdgesTest {
         x.write(0, 9, 0);
         due("the tenth is asked", x.fits(0, 0), 0);
         due("AGE stays", x.of(0, AGE), 777);
+        // WORTH is 299 or more for each AGE to 599: it is the CLAIM of 298 that is told, and never one of 300.
+        Given.row(x, 0, 32, 298);
+        x.change(0, CLAIM, 298);
+        due("no more than the CLAIM", x.fits(0, 0), 600);
+        x.change(0, CLAIM, 300);
+        due("no more than the CLAIM", x.fits(0, 0), 0);
+        Given.row(x, 0, 32, 300);
+        due("WORTH is 300 or more to AGE 598", x.fits(0, 0), 599);
         x.set(SILENT, 0);
         Given.row(x, 1, 16, 99, 99, 99, 99, 99, 99, 99, 99, 99, 99);
         due("a WALL of any AGE", x.fits(1, 1), 600);
@@ -761,6 +790,19 @@ public final class EdgesTest {
         due("a THING after another", Given.text(x, "rug 2"), 1);
         int[] fresh = {RUG, 2, 0, 99, 99, 0, 0};
         for (int what = 0; what < 7; what++) due("as at first: " + what, x.of(1, what), fresh[what]);
+        x = new JudgedDeposits();
+        x.image();
+        Given.text(x, "wall 9 aged 8 is 7 claim 6");
+        x.change(0, WAS, 5);
+        x.change(0, DAYS, 4);
+        x.judged(1);
+        x.undo();
+        due("where another was", Given.text(x, "rug 2"), 1);
+        for (int what = 0; what < 7; what++) due("as at first: " + what, x.of(0, what), fresh[what]);
+        x.undo();
+        due("a FAULT behind a THING", Given.text(x, "wall 9 aged 8 is 7 claim 6 #"), -28);
+        due("where another would have been", Given.text(x, "rug 2"), 1);
+        for (int what = 0; what < 7; what++) due("as at first: " + what, x.of(0, what), fresh[what]);
 
         says(29, "With a FAULT: -1 less the FAULT (nothing changes but that THE TAPE is empty; no finding).");
         x = Given.told("rug 1;home 55 5;blow 0 1 2;offer 3 4;silent 1");
@@ -1127,6 +1169,8 @@ public final class EdgesTest {
         for (int what = 0; what < 8; what++) due("the most: count(" + what + ")", x.count(what), most[what]);
         x.set(0, 7831);
         due("AWARDED, no more than DEPOSIT", x.count(3), 7831);
+        for (int t = 0; t < 8; t++) x.change(t, CLAIM, 10 + t);
+        due("CLAIMS alone", x.count(4), 108);
         says(40, "BEYOND: another what.");
         for (int bad : new int[] {-1, 8, MIN, MAX}) due("count(" + bad + ")", x.count(bad), BEYOND);
 

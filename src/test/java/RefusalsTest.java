@@ -256,6 +256,60 @@ public final class RefusalsTest {
         doc.due("DAY behind month(19)", x.count(0), 99999);
     }
 
+    // ---- no THING, and as many as may be
+
+    private static final String[] OF_THINGS = {"of", "change", "hurts", "ahead", "worthless", "owing", "claimFor", "kindFor", "fits", "kinds", "odds",
+        "hold"};
+
+    private static long ofThing(JudgedDeposits x, String call, int thing) {
+        switch (call) {
+            case "of": return x.of(thing, 11);
+            case "change": return x.change(thing, 6, 9);
+            case "hurts": return x.hurts(thing, 9);
+            case "ahead": return x.ahead(thing, 11, 100);
+            case "worthless": return x.worthless(thing, 999);
+            case "owing": return x.owing(thing, 0);
+            case "claimFor": return x.claimFor(thing, 60);
+            case "kindFor": return x.kindFor(thing, 60);
+            case "fits": return x.fits(2, thing);
+            case "kinds": return x.kinds(2, thing);
+            case "odds": return x.odds(thing, 99, 18, 1);
+            default: return x.hold(5, thing);
+        }
+    }
+
+    private static void emptyAndFull() {
+        doc.of("Terms, THINGS", "THINGS 0, 1, .. (at most 8)");
+        Supplier<JudgedDeposits> empty = () -> {
+            JudgedDeposits x = new JudgedDeposits();
+            Given.row(x, 2, 32, -1);
+            Given.feed(x, "rug 5");
+            return x;
+        };
+        Supplier<JudgedDeposits> full = with(Given::full);
+        for (String call : OF_THINGS) {
+            for (int thing : new int[] {0, 7}) refused(call + " of " + thing + " of none", empty, x -> ofThing(x, call, thing), BEYOND);
+            refused(call + " of 8 of eight", full, x -> ofThing(x, call, 8), BEYOND);
+            for (int thing = 0; thing < 8; thing++) {
+                long answer = ofThing(full.get(), call, thing);
+                doc.so(call + " of " + thing + " of eight answered " + answer, answer >= 0);
+            }
+        }
+        JudgedDeposits x = empty.get();
+        doc.due("go(60) of none", x.go(60), 0);
+        doc.due("month(20) of none", x.month(20), 0);
+        doc.due("judged(100) of none", x.judged(100), 0);
+        doc.due("forgiven() of none", x.forgiven(), 0);
+        doc.due("peopleFor(60) of none", x.peopleFor(60), 1);
+        doc.due("forceFor(0, 0, 60) of none", x.forceFor(0, 0, 60), 0);
+        doc.due("forceFor(0, 1, 60) of none", x.forceFor(0, 1, 60), NONE);
+        doc.due("giveUp(1000, 20) of none", x.giveUp(1000, 20), 0);
+        doc.due("giveUp(1001, 20) of none", x.giveUp(1001, 20), NONE);
+        doc.due("load(2) of none", x.load(2), 0);
+        doc.due("judge(2) of none", x.judge(2), 1);
+        for (int what = 0; what < 8; what++) doc.due("now(" + what + ") of none", x.now(what), what == 0 ? 80 : what == 2 ? 1000 : 0);
+    }
+
     // ---- what changes nothing, or nothing else
 
     private static void asked(String call, ToLongFunction<JudgedDeposits> act) {
@@ -325,6 +379,7 @@ public final class RefusalsTest {
         numbersOfQuestions();
         numbersOfRows();
         findingsOfStates();
+        emptyAndFull();
         questions();
         faultsOfTexts();
         doc.end();

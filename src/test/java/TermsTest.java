@@ -674,6 +674,11 @@ public final class TermsTest {
         fault("wall 1:", 6);
         fault("wall 1<", 6);
         fault("WALL 1", 0);
+        fault("walla 1", 0);
+        fault("wallz 1", 0);
+        fault("a", 0);
+        fault("z", 0);
+        fault("wall 1z", 6);
         fault("wall\t1", 4);
         fault("wall\n1", 4);
         fault("wall" + (char) 0 + "1", 4);
@@ -771,6 +776,19 @@ public final class TermsTest {
         fault("silent 3", 7);
     }
 
+    // The WORD with one letter changed, one less, one more.
+    private static void anotherWord(String before, String word, String behind) {
+        for (int i = 0; i < word.length(); i++) {
+            String other = (char) (word.charAt(i) == 'z' ? 'a' : word.charAt(i) + 1) + word.substring(i + 1);
+            fault(before + word.substring(0, i) + other + behind, before.length());
+            fault(before + word.substring(0, i) + word.substring(i + 1) + behind, before.length());
+        }
+        for (char c : new char[] {'a', 'z'}) {
+            fault(before + word + c + behind, before.length());
+            fault(before + c + word + behind, before.length());
+        }
+    }
+
     private static void faults() {
         says("A TEXT", "FAULT: the place (from 0) of the first byte of the first TOKEN that can't stand there (a NUMBER that isn't as told, another "
             + "WORD, a byte that begins no TOKEN, the WORD of a 9th THING: its own), or how many bytes there are if it ends too early.");
@@ -778,6 +796,9 @@ public final class TermsTest {
         fault("  wall   1000", 9);
         fault("home 1 1;  wall 1 is 100;wall 1 is 1000", 21);
         fault("  walls 1", 2);
+        String[] begins = {"thing", "carpet", "wall", "paint", "mural", "lamp", "rug", "home", "blow", "offer", "silent"};
+        for (String word : begins) anotherWord("", word, " 1 1 1");
+        for (String word : new String[] {"aged", "is", "claim"}) anotherWord("wall 1 ", word, " 1");
         fault("wall 1  ages 1", 8);
         fault("aged 1", 0);
         fault("is 1", 0);
